@@ -15,6 +15,7 @@ public final class PromiseTest {
         promise2();
         promise3();
         promise4();
+        promise4ToldAgain();
         promise5();
         promise5Depths();
         slowness();
@@ -156,6 +157,38 @@ public final class PromiseTest {
         same("4: a chain without members", Told.of("spare s; key k; slow 3;").about(0), 0);
     }
 
+    private static void promise4ToldAgain() {
+        ReplicaChain x = Told.of(THREE + "slow 1 + (3); copy 9; loss 8; draw 7;");
+        for (int round = 0; round < 2; round++) {
+            x.write(0, 1);
+            x.write(1, 1);
+            x.lose(0);
+            x.write(1, 1);
+            Told.ticks(x, 9);
+            x.join(x.about(1) - 1);
+            x.tick();
+            for (int box = 0; box < 3; box++) {
+                x.image(box);
+            }
+            Told.lay(x, "member p; member q; spare r; key k;");
+            same("4: told again", x.chain(), 2);
+            int[] due = {2, 3, 1, 0, 0, 0, 0, 0, 0, 0, 0, 0, 0, 0, 0, 2, 0};
+            for (int what = 0; what < due.length; what++) {
+                same("4: told again: about(" + what + ")", x.about(what), due[what]);
+            }
+            for (int node = 0; node < 3; node++) {
+                for (int what = 1; what <= 4; what++) {
+                    same("4: told again: node(" + node + ", " + what + ")", x.node(node, what), 0);
+                }
+                none("4: told again: back(" + node + ")", x.back(node));
+            }
+            same("4: told again: trip()", x.trip(), 2);
+            none("4: told again: the key of before", x.latest(1));
+            x.write(0, 1);
+            same("4: told again: due(0, 0)", x.due(0, 0), 1);
+        }
+    }
+
     private static void fault(String text, int kind, int place) {
         ReplicaChain x = new ReplicaChain();
         Told.lay(x, text);
@@ -295,6 +328,13 @@ public final class PromiseTest {
         same("slow not 5", delayOf("(not 5) * 5 + 2"), 2);
         same("slow and is 1", delayOf("(5 and 7) + 2"), 3);
         same("slow or is 1", delayOf("(5 or 7) + 2"), 3);
+        same("slow or, only the second", delayOf("(0 or 7) + 2"), 3);
+        same("slow or, none", delayOf("(0 or 0) + 2"), 2);
+        same("slow and, only the first", delayOf("(5 and 0) + 2"), 2);
+        same("slow <, alike", delayOf("(3 < 3) * 4 + 2"), 2);
+        same("slow >, alike", delayOf("(3 > 3) * 4 + 2"), 2);
+        same("slow =, alike", delayOf("(3 = 3) * 4 + 2"), 6);
+        same("slow -, below 0, is not 0", delayOf("((0 - 3) and 1) * 4 + 2"), 6);
         same("slow from, to", delayOf("from * 5 + to * 3"), 3);
         ReplicaChain x = Told.of(TWO + "slow from * 5 + to * 3 + back + tick;");
         x.write(0, 0);
@@ -402,6 +442,8 @@ public final class PromiseTest {
         x.tick();
         same("10: wrote(1, 2)", x.wrote(1, 2), 1);
         same("10: wrote(1, 4)", x.wrote(1, 4), 7);
+        same("10: wrote(2, 2)", x.wrote(2, 2), 1);
+        same("10: wrote(3, 2)", x.wrote(3, 2), 0);
         none("10: wrote(0, 0)", x.wrote(0, 0));
         none("10: wrote(4, 0)", x.wrote(4, 0));
         none("10: wrote(1, 5)", x.wrote(1, 5));
@@ -856,6 +898,10 @@ public final class PromiseTest {
         x.tick();
         same("31: the head may go", x.weed(0), 0);
         same("31: behind", x.weed(1), 1);
+        x = Told.of(TWO);
+        x.write(0, 1);
+        same("31: of two, the tail", x.weed(0), 1);
+        same("31: of two, at once", x.weed(1), 0);
         none("31: weed(2)", x.weed(2));
         none("31: weed(-1)", x.weed(-1));
         none("31: one alone", Told.of("member a;").weed(0));
@@ -1054,11 +1100,10 @@ public final class PromiseTest {
         x = Told.of(TWO);
         same("43: no losses", x.odds(4, 0), 1);
         same("43: no losses", x.odds(4, 1), 1);
-        x = Told.of("member a; spare b; loss 50; copy 3;");
-        same("43: one alone is not lost", x.odds(4, 1), 1);
-        x.join(1);
-        same("43: two behind the third tick", x.odds(2, 1), 1);
-        same("43: two behind the third tick", x.odds(4, 1), 4);
+        same("43: of the draws alone, whoever is there", Told.of("member a; loss 50;").odds(2, 1), 4);
+        x = Told.of(TWO + "loss 30; draw 7;");
+        x.tick();
+        same("43: whatever the seed is", x.odds(1, 1), 10);
     }
 
     private static void promise44() {
@@ -1155,6 +1200,17 @@ public final class PromiseTest {
         x.seen(4, true);
         same("49: none was lost", x.culprit(0, 0), -1);
         same("48: none was lost", x.fits(0), 1);
+        x = Told.of("spare s; " + TWO + "slow from * 2 + to;");
+        same("48: of two", x.fits(0), 3);
+        x.seen(0, true);
+        same("48: of two, the tail", x.culprit(0, 0), 1);
+        x.seen(8, true);
+        same("48: of two, the tail", x.fits(0), 1);
+        x.untell(0);
+        same("48: of two, or none behind 4 and 5", x.fits(0), 1);
+        x.seen(9, true);
+        x.untell(1);
+        same("48: of two, or none behind 4 and 5", x.fits(0), 2);
         same("48: one alone", Told.of("member a;").fits(0), 1);
         same("49: one alone", Told.of("member a;").culprit(0, 0), -1);
         same("48: without members", Told.of("spare a;").fits(0), 0);
