@@ -170,6 +170,7 @@ public final class PromiseTest {
             for (int box = 0; box < 3; box++) {
                 x.image(box);
             }
+            x.back(1);
             Told.lay(x, "member p; member q; spare r; key k;");
             same("4: told again", x.chain(), 2);
             int[] due = {2, 3, 1, 0, 0, 0, 0, 0, 0, 0, 0, 0, 0, 0, 0, 2, 0};
@@ -235,6 +236,13 @@ public final class PromiseTest {
         fault("member 1;", 2, 7);
         fault("member a b;", 2, 9);
         fault("a;", 2, 0);
+        fault("kember a;", 2, 0);
+        fault("members a;", 2, 0);
+        fault("membe a;", 2, 0);
+        fault("member az; member za; member z;", 0, -1);
+        fault("spare a; 1", 2, 9);
+        fault("draw ;", 2, 5);
+        fault("loss a;", 2, 5);
         fault(";", 2, 0);
         fault("from;", 2, 0);
         fault("copy a;", 2, 5);
@@ -282,6 +290,10 @@ public final class PromiseTest {
         fault("slow 1);", 2, 6);
         fault("slow ();", 2, 6);
         fault("slow a;", 2, 5);
+        fault("slow or;", 2, 5);
+        fault("slow and;", 2, 5);
+        fault("slow not;", 2, 8);
+        fault("slow member;", 2, 5);
         fault("slow 1 + not 1;", 2, 9);
         fault("slow not 1 < 2 and not back or tick;", 0, -1);
         fault("slow 1 or;", 2, 9);
@@ -487,7 +499,12 @@ public final class PromiseTest {
         same("12: place 30 % 3 is the head", x.row(0), 1);
         same("12: none is dropped", x.about(4), 0);
         same("12: still under way", x.under(0, 0), 1);
-        same("12: the seed goes on", Told.of(THREE + "draw 7; loss 30;").about(7), 7);
+        x = Told.of(THREE + "draw 7; loss 30;");
+        x.tick();
+        same("12: the seed again", x.about(7), 30);
+        same("12: 30 is not less than 30", x.about(0), 3);
+        x.tick();
+        same("12: the seed goes on", x.about(7), 181);
         x = Told.of("member a; loss 100;");
         x.tick();
         same("12: one alone is not lost", x.about(0), 1);
@@ -517,6 +534,7 @@ public final class PromiseTest {
         same("13: dropped", x.about(4), 2);
         same("13: head", x.row(0), 1);
         same("13: gone", x.node(0, 1), 0);
+        same("13: gone, its dirty ones too", x.node(0, 3), 0);
         same("13: under way to the tail", x.under(0, 0), 1);
         same("13: the tail: lose(2)", x.lose(2), 0);
         same("13: all is clean to the one left", x.answered(), 1);
@@ -553,6 +571,9 @@ public final class PromiseTest {
         same("13: the head: lose(0)", x.lose(0), 0);
         same("13: clean to the new head", x.answered(), 1);
         same("13: its message is lost", x.traffic(), 0);
+        x.lose(1);
+        same("13: gone, nothing is clean to it", x.node(1, 2), 0);
+        same("13: gone, nothing is dirty to it", x.node(1, 3), 0);
     }
 
     private static void promise13Copying() {
@@ -1228,6 +1249,11 @@ public final class PromiseTest {
         same("50: one is left", x.ask(1, 0), 1);
         x.seen(2, true);
         none("50: none fits", x.ask(0, 0));
+        x = Told.of(SIX + "slow 6;");
+        same("50: without one of the last five", x.ask(0, 0), 48);
+        same("50: five at the most", x.ask(1, 0), 5);
+        x.seen(59, false);
+        same("50: the last number of ticks", x.ask(0, 0), 60);
         x = Told.of("member a;");
         same("50: one alone", x.ask(0, 0), 0);
         same("50: one alone", x.ask(1, 0), 1);
