@@ -299,6 +299,15 @@ final class ActEdges {
         Edge.same("lose(0) of 40", x.lose(0), 40);
         Edge.same("about(4)", x.about(4), 40);
         Edge.same("about(3)", x.about(3), 0);
+        x.tick();
+        Edge.same("about(4) behind another act", x.about(4), 40);
+        x = Told.of(Edge.THREE);
+        x.write(0, 1);
+        x.lose(0);
+        x.write(0, 1);
+        x.write(0, 1);
+        Edge.same("lose(1) behind lose(0)", x.lose(1), 2);
+        Edge.same("about(4), together", x.about(4), 3);
         x = Told.of(Edge.THREE);
         x.write(0, 1);
         Edge.same("lose(1), in the middle", x.lose(1), 0);

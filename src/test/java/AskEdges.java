@@ -7,6 +7,7 @@ final class AskEdges {
 
     static void run() {
         nothingIsDone();
+        sixMembers();
         noLossesByDraws();
         readCantBe();
         readIfDirty();
@@ -104,6 +105,36 @@ final class AskEdges {
         ReplicaChain without = new ReplicaChain();
         Edge.busy(without);
         Edge.alike("all that is asked", x, without);
+    }
+
+    private static void sixMembers() {
+        Edge.of(0, "members (6 at most");
+        ReplicaChain x = Told.of(Edge.SIX + "key y;");
+        for (int i = 0; i < 7; i++) {
+            x.write(0, i);
+            x.tick();
+        }
+        // From the second on each has one write less than the one ahead; clean are 3 to the tail, 2 and 1 to those ahead.
+        Edge.same("askers(0)", x.askers(0), 31);
+        Edge.same("askers(1)", x.askers(1), 0);
+        Edge.same("stale(0)", x.stale(0), 31);
+        Edge.same("wrote(1, 3)", x.wrote(1, 3), 63);
+        Edge.same("wrote(1, 4)", x.wrote(1, 4), 56);
+        Edge.same("wrote(7, 3)", x.wrote(7, 3), 3);
+        Edge.same("dirtiest(0)", x.dirtiest(0), 0);
+        Edge.same("dirtiest(2)", x.dirtiest(2), 7);
+        Edge.same("weed(0)", x.weed(0), 2);
+        Edge.same("weed(1)", x.weed(1), 7);
+        Edge.same("fullest()", x.fullest(), 2);
+        Edge.same("soonestOf(0)", x.soonestOf(0), 1);
+        Edge.same("traffic()", x.traffic(), 7);
+        Edge.same("idle()", x.idle(), 192);
+        Edge.same("drops(31)", x.drops(31), 4);
+        Edge.same("worst(5, 0)", x.worst(5, 0), 4);
+        Edge.same("safe()", x.safe(), 5);
+        Edge.same("lag(5)", x.lag(5), 4);
+        Edge.same("when(7)", x.when(7), 9);
+        Edge.same("without(5)", x.without(5), 8);
     }
 
     private static void noLossesByDraws() {
@@ -520,6 +551,10 @@ final class AskEdges {
             Edge.same("on tick " + i, x.soonest(), due[i]);
             x.tick();
         }
+        x = Told.of(Edge.THREE + "slow 1 + tick;");
+        Edge.same("of three, each on its tick: 1, 2, 4 and 8", x.soonest(), 15);
+        x.tick();
+        Edge.same("of three, from tick 1 on: 2, 4, 8 and 9", x.soonest(), 23);
         x = Told.of(Edge.THREE + "slow 1 + under * 5 + (write > 1) * 3; copy 1;");
         x.write(0, 1);
         x.write(0, 2);

@@ -18,6 +18,7 @@ final class ChainEdges {
         cutAndRest();
         byZero();
         oneOrZero();
+        longFormulas();
         tailIsClean();
         sentAtOnce();
         answeredAtTheHead();
@@ -257,6 +258,27 @@ final class ChainEdges {
         }
     }
 
+    private static void longFormulas() {
+        Edge.of(0, "30 in one e (a unit ( e ), or a one behind not, within 6 others at most)");
+        String not = "not not not not not not ";
+        StringBuilder nots = new StringBuilder(not + "1");
+        for (int i = 1; i < 27; i++) {
+            nots.append(" and ").append(not).append("1");
+        }
+        Edge.same("as many nots as can be", delayOf("(" + nots + ") * 4 + 2"), 6);
+        Edge.same("one of them is 0", delayOf("(" + nots.substring(0, nots.length() - 1) + "0) * 4 + 2"), 2);
+        String inner = "1";
+        for (int i = 0; i < 4; i++) {
+            inner = "(0 or 1 and 0 < 1 + 1 * " + inner + ")";
+        }
+        Edge.same("as much to the right as can be", delayOf("3 + 2 * " + inner), 5);
+        StringBuilder ones = new StringBuilder("1");
+        for (int i = 1; i < 27; i++) {
+            ones.append(i % 2 == 0 ? "+1" : "-1");
+        }
+        Edge.same("thirty units", delayOf("3*(" + ones + ")+1"), 4);
+    }
+
     private static void tailIsClean() {
         Edge.of(0, "What the TAIL HAS is CLEAN to it.");
         ReplicaChain x = Told.of(Edge.THREE);
@@ -471,6 +493,17 @@ final class ChainEdges {
         Told.ticks(x, 4);
         x.lose(1);
         Edge.same("nothing lacks, nothing is sent", x.traffic(), 0);
+        x = Told.of(Edge.SIX);
+        for (int i = 0; i < 4; i++) {
+            x.write(0, 1);
+            x.tick();
+        }
+        x.lose(2);
+        int[] down = {0, 2, 1, 1};
+        for (int place = 0; place < 4; place++) {
+            Edge.same("of six, down behind " + place, x.under(place, 0), down[place]);
+        }
+        Edge.same("of six, tick()", x.tick(), 4);
         x = Told.of(Edge.SIX);
         x.write(0, 1);
         x.lose(2);

@@ -54,6 +54,7 @@ final class SeenEdges {
         x.untell(0);
         Edge.none("seen, though one is untold", x.seen(0, true));
         Edge.same("about(10)", x.about(10), 30);
+        Edge.no("untell(30)", x.untell(30));
         Edge.yes("untell(29)", x.untell(29));
         x.end(0);
         Told.lay(x, Edge.THREE);
@@ -84,9 +85,11 @@ final class SeenEdges {
         x.later(5);
         Edge.no("untell(0) later", x.untell(0));
         Edge.same("it is untold as of before: fits(0)", x.fits(0), 4);
+        x.seen(0, true);
         Told.lay(x, Edge.THREE);
         x.chain();
         Edge.no("untell(0) behind another chain", x.untell(0));
+        Edge.no("untell(1) behind another chain", x.untell(1));
     }
 
     private static void untellLaterOrTheSame() {

@@ -69,6 +69,8 @@ final class TextEdges {
         fault("member a;" + times(" ", 1586) + "key x", 2, 1600);
         fault(times("\n", 1599) + "a", 2, 1599);
         good(times(" ", 1600));
+        fault(times(" ", 1594) + "copy 3", 2, 1600);
+        fault(times(" ", 1592) + "member a", 2, 1600);
         Edge.same("empty at first", new ReplicaChain().chain(), 0);
     }
 
@@ -81,6 +83,7 @@ final class TextEdges {
         fault("slow backbackb;", 1, 5);
         good("key abcdefgh; key abcdefgi; key abcdefg; key bbcdefgh;");
         good("member a; member aa; member aaa; member z; member zz; member za;");
+        good("member a; member ba; member aba; member b; member bb; member ab;");
         fault("key abcdefgh; key abcdefgh;", 3, 18);
         fault("key zzzzzzzz; key zzzzzzzz;", 3, 18);
     }
@@ -146,7 +149,9 @@ final class TextEdges {
             fault("member " + own + ";", 2, 7);
             fault("spare " + own + ";", 2, 6);
             fault("key " + own + ";", 2, 4);
-            good("member " + own.substring(1) + "x; key " + own.charAt(0) + ";");
+            String rest = own.substring(1);
+            String start = own.substring(0, own.length() - 1);
+            good("member x" + rest + "; member " + start + "q; key " + rest + "x; key " + own.charAt(0) + ";");
         }
         good("member e; member one; member both; member sum; member term; member unit; spare n; spare name;");
         good("key line; key chain; key word; key sign;");
@@ -313,6 +318,11 @@ final class TextEdges {
         fault("member a b;", 2, 9);
         fault("spare a key b;", 2, 8);
         fault("copy x;", 2, 5);
+        fault("copy ;", 2, 5);
+        fault("loss;", 2, 4);
+        fault("draw ;", 2, 5);
+        fault("spare ;", 2, 6);
+        fault("key;", 2, 3);
         fault("copy 1 2;", 2, 7);
         fault("loss (1);", 2, 5);
         fault("draw -1;", 2, 5);
@@ -415,6 +425,15 @@ final class TextEdges {
         Edge.same("end(0)", x.end(0), 0);
         Edge.same("chain()", x.chain(), 0);
         Edge.same("about(0)", x.about(0), 0);
+        Told.lay(x, "copy 12ab;");
+        x.end(6);
+        Edge.none("chain()", x.chain());
+        Edge.same("a letter cut off is not behind the number: fault(0)", x.fault(0), 2);
+        Edge.same("fault(1)", x.fault(1), 6);
+        x.end(5);
+        Told.lay(x, "9;");
+        Edge.same("chain()", x.chain(), 0);
+        Edge.same("about(15)", x.about(15), 9);
     }
 
     private static void chainForgets() {
@@ -436,13 +455,34 @@ final class TextEdges {
         Told.lay(fresh, again);
         fresh.chain();
         Edge.alike("chain()", x, fresh);
-        Edge.busy(x);
-        x.end(0);
-        Edge.same("chain() of an empty tape", x.chain(), 0);
-        fresh = new ReplicaChain();
-        fresh.later(8);
+        forgetsAllBefore("member q; member r; spare s; key z;", 2);
+        forgetsAllBefore("", 0);
+    }
+
+    private static void forgetsAllBefore(String text, int members) {
+        ReplicaChain x = new ReplicaChain();
+        // Often enough that whatever a text told, and wherever it was held, is told over.
+        for (int i = 0; i < 3; i++) {
+            Edge.busy(x);
+            x.write(0, 16);
+            x.lose(0);
+            x.image(2);
+            x.back(2);
+            Edge.yes("some are dropped", x.about(4) > 0);
+            x.end(0);
+        }
+        Told.lay(x, text);
+        Edge.same("chain() of " + text, x.chain(), members);
+        for (int node = 0; node < x.about(1); node++) {
+            for (int what = 1; what <= 4; what++) {
+                Edge.same("node(" + node + ", " + what + ")", x.node(node, what), 0);
+            }
+        }
+        ReplicaChain fresh = new ReplicaChain();
+        fresh.later(12);
+        Told.lay(fresh, text);
         fresh.chain();
-        Edge.alike("chain() of an empty tape", x, fresh);
+        Edge.alike("chain() of " + text, x, fresh);
     }
 
     private static void chainFaultStays() {
