@@ -297,12 +297,30 @@ final class AskEdges {
         Told.ticks(x, 2);
         Edge.same("the latest clean one alone", x.versions(0, 0), 1);
         Edge.same("its number", x.version(0, 0, 0), 4);
+        versionsOfEachMember();
         x = filled(Edge.TWO);
         Edge.same("40 dirty ones", x.versions(0, 0), 40);
         Edge.same("the last of them", x.version(0, 0, 39), 40);
         Edge.none("version(0, 0, 40)", x.version(0, 0, 40));
         Told.ticks(x, 2);
         Edge.same("40 clean ones", x.versions(0, 0), 1);
+    }
+
+    private static void versionsOfEachMember() {
+        ReplicaChain x = Told.of(Edge.THREE);
+        for (int i = 0; i < 4; i++) {
+            x.write(1, i);
+            x.tick();
+        }
+        // The head has 4 and 1 is clean to it, the second has 4 and 2, the tail 3 and 3.
+        int[][] due = {{1, 2, 3, 4, -1}, {2, 3, 4, -1, -1}, {3, -1, -1, -1, -1}};
+        Edge.same("answered()", x.answered(), 1);
+        for (int node = 0; node < 3; node++) {
+            for (int i = 0; i < 5; i++) {
+                Edge.same("version(" + node + ", 1, " + i + ")", x.version(node, 1, i), due[node][i]);
+            }
+            Edge.same("versions(" + node + ", 1)", x.versions(node, 1), 4 - node - node / 2);
+        }
     }
 
     private static void willBounds() {
@@ -531,6 +549,15 @@ final class AskEdges {
         for (int i = 0; i < 3; i++) {
             Edge.same("by numbers, not by places: lies(" + i + ")", x.lies(i), i + 1);
         }
+        x = Told.of(Edge.SIX + "copy 1; slow 1 + (from = 7 or to = 7) * 2;");
+        x.lose(0);
+        x.join(7);
+        x.tick();
+        order = new int[] {1, 2, 3, 4, 5, 7};
+        Edge.same("with the last of eight nodes: soonest()", x.soonest(), 14);
+        for (int i = 0; i < 6; i++) {
+            Edge.same("lies(" + i + ")", x.lies(i), order[i]);
+        }
         x = Told.of("member a; member b; member c; slow 1 + back * (from < to) * 5 + (not back) * (from > to) * 3;");
         Edge.same("there up, back down again: soonest()", x.soonest(), 4);
         x = Told.of("member a; member b; member c; slow 1 + (to = 0) * 5;");
@@ -748,6 +775,9 @@ final class AskEdges {
         x.write(0, 1);
         others("dirtiest", x::dirtiest, -1, Edge.LOW, -1, 3, 4, Edge.HIGH);
         Edge.same("dirtiest(2) of 40", filled(Edge.TWO).dirtiest(2), 40);
+        Edge.same("dirtiest(0) of one alone", filled(Edge.ONE).dirtiest(0), 0);
+        Edge.same("dirtiest(1) of one alone", filled(Edge.ONE).dirtiest(1), 0);
+        Edge.same("dirtiest(2) of one alone", filled(Edge.ONE).dirtiest(2), 1);
     }
 
     private static void dirtiestNearest() {

@@ -33,6 +33,7 @@ final class TextEdges {
         endBounds();
         endCuts();
         chainForgets();
+        chainForgetsWhatAllHave();
         chainFaultStays();
         chainAnswers();
         faultOfLatest();
@@ -172,6 +173,8 @@ final class TextEdges {
         fault(eight + "member a;", 2, 64);
         fault(eight + "member 1", 2, 64);
         good(eight + "key a;");
+        good("spare g;spare h;" + six);
+        fault("spare g;" + six + "member h;", 2, 62);
         ReplicaChain x = Told.of("spare s; member z; spare t; member a;");
         Edge.same("members", x.about(0), 2);
         Edge.same("nodes", x.about(1), 4);
@@ -483,6 +486,31 @@ final class TextEdges {
         Told.lay(fresh, text);
         fresh.chain();
         Edge.alike("chain() of " + text, x, fresh);
+    }
+
+    private static void chainForgetsWhatAllHave() {
+        Edge.of(4, "all as told, tick 0, no WRITES");
+        ReplicaChain x = Told.of(Edge.SIX);
+        x.write(0, 5);
+        x.lose(3);
+        x.join(7);
+        Told.ticks(x, 12);
+        Edge.same("clean to all members", x.wrote(1, 4), 183);
+        // Gone back to, it is what the next chain begins in the place of.
+        x.image(0);
+        x.back(0);
+        Told.lay(x, Edge.SIX);
+        Edge.same("chain()", x.chain(), 6);
+        for (int node = 0; node < 8; node++) {
+            for (int what = 1; what <= 4; what++) {
+                Edge.same("node(" + node + ", " + what + ")", x.node(node, what), 0);
+            }
+        }
+        Edge.none("wrote(1, 0)", x.wrote(1, 0));
+        Edge.none("read(0, 0)", x.read(0, 0));
+        Edge.same("traffic()", x.traffic(), 0);
+        Edge.same("write(0, 6)", x.write(0, 6), 1);
+        Edge.same("when(1)", x.when(1), 10);
     }
 
     private static void chainFaultStays() {
