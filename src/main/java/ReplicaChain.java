@@ -669,15 +669,23 @@ public final class ReplicaChain {
         }
         int upper = 1;
         int lower = 1;
-        for (int ticks = 0; ticks < n; ticks++) {
-            upper *= 100 - plan.loss;
-            lower *= 100;
+        for (int ticks = 1; ticks <= n; ticks++) {
+            if (canLoseBehind(ticks)) {
+                upper *= 100 - plan.loss;
+                lower *= 100;
+            }
         }
         int common = commonDivisor(lower, upper);
         if (common == 0) {
             return NONE;
         }
         return part == 0 ? upper / common : lower / common;
+    }
+
+    // A draw takes nobody from a chain of one; the one that copies may make it a chain of two.
+    private boolean canLoseBehind(int ticks) {
+        boolean hasJoined = now.copier != NONE && now.copyLeft <= ticks;
+        return now.size + (hasJoined ? 1 : 0) >= 2;
     }
 
     private static int commonDivisor(int a, int b) {

@@ -49,6 +49,7 @@ final class AskEdges {
         lawFromNowOn();
         oddsNone();
         oddsLowest();
+        oddsOfOne();
         liesNone();
     }
 
@@ -944,11 +945,34 @@ final class AskEdges {
                 Edge.same("lowest terms of odds(" + n + ", ..) of loss " + loss, common(upper, lower), 1);
             }
         }
-        ReplicaChain x = Told.of(Edge.TWO + "loss 30; draw 7;");
-        for (int i = 0; i < 4; i++) {
+        for (int draw : new int[] {0, 7, 17, 44, 999}) {
+            ReplicaChain x = Told.of(Edge.TWO + "loss 30; draw " + draw + ";");
             Edge.same("another seed", x.odds(1, 0) * 100 + x.odds(1, 1), 710);
-            x.tick();
         }
+    }
+
+    private static void oddsOfOne() {
+        Edge.of(43, "and there are two MEMBERS or more");
+        for (String text : new String[] {"loss 30;", "spare s; loss 30;", "member a; loss 30;", Edge.ONE + "loss 100;"}) {
+            ReplicaChain x = Told.of(text);
+            for (int n = 0; n <= 4; n++) {
+                Edge.same("odds(" + n + ", 0) of " + text, x.odds(n, 0), 1);
+                Edge.same("odds(" + n + ", 1) of " + text, x.odds(n, 1), 1);
+            }
+        }
+        ReplicaChain x = Told.of(Edge.ONE + "loss 30; copy 3; draw 7;");
+        x.join(1);
+        int[] joining = {101, 101, 101, 710, 5000};
+        for (int n = 0; n <= 4; n++) {
+            Edge.same("of two behind the third tick: odds(" + n + ", ..)", x.odds(n, 0) * 100 + x.odds(n, 1), joining[n]);
+        }
+        x = Told.of(Edge.TWO + "loss 30;");
+        x.lose(1);
+        Edge.same("one is left: odds(4, 1)", x.odds(4, 1), 1);
+        x.undo();
+        Edge.same("two again: odds(4, 1)", x.odds(4, 1), 10000);
+        x.join(2);
+        Edge.same("of two or three alike: odds(4, 1)", x.odds(4, 1), 10000);
     }
 
     private static long common(long a, long b) {

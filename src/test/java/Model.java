@@ -1018,8 +1018,16 @@ final class Model {
         if (n < 0 || n > 4 || part < 0 || part > 1) {
             return -1;
         }
-        BigInteger up = BigInteger.valueOf(100 - told.loss).pow(n);
-        BigInteger low = BigInteger.valueOf(100).pow(n);
+        Chain c = now.copy();
+        BigInteger up = BigInteger.ONE;
+        BigInteger low = BigInteger.ONE;
+        for (int i = 0; i < n && !empty(); i++) {
+            c.turn();
+            if (c.row.size() >= 2) {
+                up = up.multiply(BigInteger.valueOf(100 - told.loss));
+                low = low.multiply(BigInteger.valueOf(100));
+            }
+        }
         BigInteger g = up.gcd(low);
         return (part == 0 ? up : low).divide(g).intValueExact();
     }

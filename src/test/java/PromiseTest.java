@@ -1121,7 +1121,7 @@ public final class PromiseTest {
         x = Told.of(TWO);
         same("43: no losses", x.odds(4, 0), 1);
         same("43: no losses", x.odds(4, 1), 1);
-        same("43: of the draws alone, whoever is there", Told.of("member a; loss 50;").odds(2, 1), 4);
+        same("43: one alone is not lost", Told.of("member a; loss 50;").odds(2, 1), 1);
         x = Told.of(TWO + "loss 30; draw 7;");
         x.tick();
         same("43: whatever the seed is", x.odds(1, 1), 10);
