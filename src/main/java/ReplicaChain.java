@@ -494,21 +494,25 @@ public final class ReplicaChain {
 
     // Orders come by numbers, and only a sooner one is taken, so the first of like ones stays.
     private void tryOrders(int placed, int used, int ticks) {
-        if (ticks >= fewest || placed > MOST_MEMBERS) {
+        if (ticks >= fewest) {
             return;
         }
-        if (placed == now.size) {
+        if (placed >= now.size || placed >= order.length) {
             takeOrderIfSooner(ticks);
             return;
         }
         int left = now.memberBits() & ~used;
         for (int node = 0; node < MOST_NODES; node++) {
             if ((left >> node & 1) == 1) {
-                int wait = placed == 0 ? 0 : plan.slow.delay(order[placed - 1], node, 1, 0, 0, now.tick + ticks);
-                order[placed] = node;
-                tryOrders(placed + 1, used | 1 << node, ticks + wait);
+                tryOrdersWith(node, placed, used, ticks);
             }
         }
+    }
+
+    private void tryOrdersWith(int node, int placed, int used, int ticks) {
+        int wait = placed == 0 ? 0 : plan.slow.delay(order[placed - 1], node, 1, 0, 0, now.tick + ticks);
+        order[placed] = node;
+        tryOrders(placed + 1, used | 1 << node, ticks + wait);
     }
 
     private void takeOrderIfSooner(int ticksThere) {
@@ -1156,13 +1160,7 @@ public final class ReplicaChain {
 
         private void readOne(int within) {
             if (isWord(NOT)) {
-                if (within > MOST_WITHIN) {
-                    refuse(CANT_STAND);
-                    return;
-                }
-                advance();
-                readOne(within + 1);
-                plan.slow.add(Formula.NOT);
+                readNot(within);
                 return;
             }
             readSum(within);
@@ -1172,6 +1170,16 @@ public final class ReplicaChain {
                 readSum(within);
                 plan.slow.add(step);
             }
+        }
+
+        private void readNot(int within) {
+            if (within > MOST_WITHIN) {
+                refuse(CANT_STAND);
+                return;
+            }
+            advance();
+            readOne(within + 1);
+            plan.slow.add(Formula.NOT);
         }
 
         private void readSum(int within) {

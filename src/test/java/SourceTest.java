@@ -48,6 +48,10 @@ public final class SourceTest {
             got.add(b.append(')').append(m.getReturnType()).toString());
         }
         Check.yes("the face is " + due + ", not " + got, due.equals(got));
+        for (Method m : ReplicaChain.class.getDeclaredMethods()) {
+            boolean isPrivate = Modifier.isPrivate(m.getModifiers());
+            Check.no("a private " + m.getName() + " bears a public name", isPrivate && names.contains(m.getName()));
+        }
         for (Class<?> c : ReplicaChain.class.getDeclaredClasses()) {
             for (Method m : c.getDeclaredMethods()) {
                 Check.no(c + "." + m.getName() + " bears a public name", names.contains(m.getName()));
@@ -99,20 +103,28 @@ public final class SourceTest {
             Check.no("the source has " + word, m.find());
         }
         Check.yes("signs 1 to 127 alone", source.chars().allMatch(c -> c > 0 && c < 128));
-        checkLengths(code);
+        checkMethods(code);
     }
 
-    private static void checkLengths(String code) {
+    private static void checkMethods(String code) {
         int start = -1;
         String[] lines = code.split("\n");
         for (int i = 0; i < lines.length; i++) {
-            if (lines[i].matches("( {4}| {8})[a-zA-Z].*\\) \\{") && !lines[i].matches(".*\\b(class|for|if|while)\\b.*")) {
+            if (lines[i].matches("( {4}| {8})[a-zA-Z].*\\) \\{") && !lines[i].matches(".*\\b(class|for|if|while|switch)\\b.*")) {
                 start = i;
             }
-            if (start >= 0 && lines[i].matches("( {4}| {8})\\}")) {
+            if (start >= 0 && lines[i].equals(lines[start].replaceAll("\\S.*", "") + "}")) {
                 Check.yes("sixty lines at most: " + lines[start], i - start < 60);
+                checkRecursion(lines[start], String.join("\n", Arrays.copyOfRange(lines, start + 1, i)));
                 start = -1;
             }
         }
+    }
+
+    /** By rule 8 a method that calls itself is private and static; others call one another. */
+    private static void checkRecursion(String head, String body) {
+        Matcher name = Pattern.compile("(\\w+)\\(").matcher(head);
+        boolean callsItself = name.find() && Pattern.compile("(?<![\\w.])" + name.group(1) + "\\(").matcher(body).find();
+        Check.yes("recursion: " + head, !callsItself || head.contains("private static "));
     }
 }
